@@ -531,7 +531,7 @@ public final class KinLedger {
     private final int[] words;
     private final int[] pile;
 
-    /** The words are right ones: the pile is then never too low and never higher than they are many. */
+    /** Takes right words alone: the pile is then never too low, nor higher than there are words. */
     Check(int table, int[] words) {
       this.table = table;
       this.words = words;
@@ -576,29 +576,22 @@ public final class KinLedger {
     private int result(Rows rows, int place) {
       int height = 0;
       for (int i = 0; i < words.length; i++) {
-        int w = words[i];
-        height -= taken(w);
-        pile[height] = laid(w, height, rows, place);
+        int taken = taken(words[i]);
+        height -= taken;
+        pile[height] = taken == 0 ? laid(words[i], rows, place) : worked(words[i], height);
         height++;
       }
       return pile[0];
     }
 
-    /** What a word lays on the pile when it has taken away what lay from this height on. */
-    private int laid(int w, int height, Rows rows, int place) {
-      if (w <= LAST_CELL) {
-        return rows.at(place, w);
-      }
-      if (w >= FIRST_NUMBER) {
-        return w - ZERO;
-      }
-      if (w == NOT) {
-        return truth(pile[height] == 0);
-      }
-      return worked(w, pile[height], pile[height + 1]);
+    private static int laid(int w, Rows rows, int place) {
+      return w <= LAST_CELL ? rows.at(place, w) : w - ZERO;
     }
 
-    private static int worked(int w, int x, int y) {
+    /** What a word makes of the ints that it took away: they still lie on the pile from this height on. */
+    private int worked(int w, int height) {
+      int x = pile[height];
+      int y = w == NOT ? 0 : pile[height + 1];
       switch (w) {
         case PLUS:
           return x + y;
@@ -607,20 +600,16 @@ public final class KinLedger {
         case TIMES:
           return x * y;
         case LESS:
-          return truth(x < y);
+          return x < y ? 1 : 0;
         case EQUAL:
-          return truth(x == y);
+          return x == y ? 1 : 0;
         case AND:
-          return truth(x != 0 && y != 0);
+          return x != 0 && y != 0 ? 1 : 0;
         case OR:
-          return truth(x != 0 || y != 0);
+          return x != 0 || y != 0 ? 1 : 0;
         default:
-          return 0;
+          return x == 0 ? 1 : 0;
       }
-    }
-
-    private static int truth(boolean so) {
-      return so ? 1 : 0;
     }
   }
 }
