@@ -19,15 +19,23 @@ public final class ModelTest {
       {1, 208, 13}, {1, 17, 17}, {0, 1, 14, 17}, {1, 192, 13, 17}, {1, 0, 10, 2, 11}, {2, 1, 12, 203, 14, 17},
       {1, 2, 13, 1, 2, 14, 16}, {0, 200, 13, 1, 15, 17}, {3, 2, 14, 17}, {201}, {1, 3, 16, 0, 16}};
 
+  /** What the keys of a run are, beside 1, 2, ..: by how much the first and each next one grows. */
+  private static final int[][] SPREADS = {
+      {0, 1}, {0, 1}, {0, 1}, {0, -1}, {0, 1000}, {-5, 2}, {Integer.MAX_VALUE - 3, 1}, {0, 1 << 30}, {7, 65536}};
+
   private final Random random;
+  private final int tables;
   private final int keys;
+  private final int[] spread;
   private final KinLedger ledger = new KinLedger();
   private final Model model = new Model();
   private int calls = 0;
 
   private ModelTest(int seed) {
     random = new Random(seed);
-    keys = 2 + random.nextInt(12);
+    tables = 2 + random.nextInt(3);
+    keys = 2 + random.nextInt(random.nextInt(4) == 0 ? 23 : 11);
+    spread = SPREADS[random.nextInt(SPREADS.length)];
   }
 
   public static void main(String[] args) {
@@ -62,10 +70,10 @@ public final class ModelTest {
 
   /** What is there at the end, as far as the limit of calls lets it be asked. */
   private String lastCalls() {
-    for (int t = 0; t < 3; t++) {
+    for (int t = 0; t < tables; t++) {
       for (int k = 1; k <= keys; k++) {
         for (int column = 1; column < 4; column++) {
-          String fault = calls < MOST_CALLS ? ask("cell", t, k, column) : null;
+          String fault = calls < MOST_CALLS ? ask("cell", t, spread(k), column) : null;
           if (fault != null) {
             return fault;
           }
@@ -78,7 +86,8 @@ public final class ModelTest {
   private String ruleCall() {
     String name = RULES[random.nextInt(RULES.length)];
     if (name.equals("check")) {
-      return checkCalls();
+      // The checks ask for small cells: where cells are great they would refuse nearly every row.
+      return spread[1] == 1 || random.nextInt(10) == 0 ? checkCalls() : null;
     }
     switch (name) {
       case "table": return ask(name, odd(2 + random.nextInt(3)));
@@ -125,7 +134,7 @@ public final class ModelTest {
   }
 
   private int table() {
-    return random.nextInt(3);
+    return random.nextInt(tables);
   }
 
   private int column(int least) {
@@ -134,7 +143,11 @@ public final class ModelTest {
   }
 
   private int key() {
-    return 1 + random.nextInt(keys);
+    return spread(1 + random.nextInt(keys));
+  }
+
+  private int spread(int k) {
+    return spread[0] + k * spread[1];
   }
 
   private int cell() {
